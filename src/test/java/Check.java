@@ -6,15 +6,32 @@ final class Check {
     static final long NO_STATE = -1002;
 
     private static int wrong = 0;
+    /** The sentence of the document whose test is running; empty outside of such tests. */
+    private static String sentence = "";
 
     private Check() {
     }
 
+    /** Runs the test of one sentence of the document: what is wrong in it is told under that sentence. */
+    static void sentence(String where, String words, Runnable test) {
+        sentence = where + ", '" + words + "': ";
+        try {
+            test.run();
+        } catch (RuntimeException e) {
+            tellWrong("the test ended with " + e);
+        }
+        sentence = "";
+    }
+
     static void due(String call, long got, long want) {
         if (got != want) {
-            wrong++;
-            System.out.println(call + " answered " + told(got) + ", due is " + told(want));
+            tellWrong(call + " answered " + told(got) + ", due is " + told(want));
         }
+    }
+
+    private static void tellWrong(String what) {
+        wrong++;
+        System.out.println(sentence + what);
     }
 
     static void due(String call, boolean got, boolean want) {

@@ -1,4 +1,4 @@
-/** Promise 4: exception, without the limit (LimitsTest has it). */
+/** Promise 4: exception, without the limit (FullBookTest has it). */
 public final class ExceptionTest {
     public static void main(String[] args) {
         exceptions();

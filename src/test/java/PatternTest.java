@@ -1,4 +1,4 @@
-/** Promise 3: pattern, without the limits (LimitsTest has these). */
+/** Promise 3: pattern, without the limits (FullBookTest has these). */
 public final class PatternTest {
     private static final String LETTERS_63 = "a".repeat(63);
 
