@@ -1,17 +1,17 @@
 /** The bounds of bytes, letters, digits, edge and hyphen, which the terms name. */
 public final class BytesBoundsTest {
     public static void main(String[] args) {
-        Check.sentence("Terms", "BYTES are 0 .. 255", BytesBoundsTest::leastAndGreatestByte);
+        Check.sentence("Terms of promise 2", "BYTES are 0 .. 255", BytesBoundsTest::leastAndGreatestByte);
         String letters = "LETTERS are the bytes 97 .. 122 and 128 .. 255";
-        Check.sentence("Terms", letters, BytesBoundsTest::lettersOfWords);
-        Check.sentence("Terms", letters, BytesBoundsTest::lettersOfPatterns);
-        Check.sentence("Terms", letters, BytesBoundsTest::lettersOfExceptions);
-        Check.sentence("Terms", letters, BytesBoundsTest::lettersAreAllUnlike);
-        Check.sentence("Terms", "DIGITS 48 .. 57", BytesBoundsTest::digits);
-        Check.sentence("Terms", "the EDGE is 46", BytesBoundsTest::edgeAhead);
-        Check.sentence("Terms", "the EDGE is 46", BytesBoundsTest::edgeBehind);
-        Check.sentence("Terms", "the HYPHEN 45", BytesBoundsTest::hyphen);
-        Check.sentence("Terms", "the EDGE is 46, the HYPHEN 45", BytesBoundsTest::noneOfThemInAWord);
+        Check.sentence("Terms of promise 5", letters, BytesBoundsTest::lettersOfWords);
+        Check.sentence("Terms of promise 3", letters, BytesBoundsTest::lettersOfPatterns);
+        Check.sentence("Terms of promise 4", letters, BytesBoundsTest::lettersOfExceptions);
+        Check.sentence("Terms of promises 3 and 4", letters, BytesBoundsTest::lettersAreAllUnlike);
+        Check.sentence("Terms of promise 3", "DIGITS 48 .. 57", BytesBoundsTest::digits);
+        Check.sentence("Terms of promise 3", "the EDGE is 46", BytesBoundsTest::edgeAhead);
+        Check.sentence("Terms of promise 3", "the EDGE is 46", BytesBoundsTest::edgeBehind);
+        Check.sentence("Terms of promise 4", "the HYPHEN 45", BytesBoundsTest::hyphen);
+        Check.sentence("Terms of promise 5", "the EDGE is 46, the HYPHEN 45", BytesBoundsTest::noneOfThemInAWord);
         Check.end();
     }
 

@@ -4,15 +4,15 @@ public final class DraftBoundsTest {
     private static final long ABCDEFGH = 0x6162636465666768L;
 
     public static void main(String[] args) {
-        Check.sentence("Terms", "The DRAFT has at most 200 bytes", DraftBoundsTest::twoHundredBytes);
+        Check.sentence("Terms of promise 2", "The DRAFT has at most 200 bytes", DraftBoundsTest::twoHundredBytes);
         String usedUp = "it is used up by pattern(), exception() and word(), whatever comes of them";
-        Check.sentence("Terms", usedUp, DraftBoundsTest::usedUpByPattern);
-        Check.sentence("Terms", usedUp, DraftBoundsTest::usedUpByPatternThatThrows);
-        Check.sentence("Terms", usedUp, DraftBoundsTest::usedUpByException);
-        Check.sentence("Terms", usedUp, DraftBoundsTest::usedUpByExceptionThatThrows);
-        Check.sentence("Terms", usedUp, DraftBoundsTest::usedUpByWord);
-        Check.sentence("Terms", usedUp, DraftBoundsTest::usedUpByWordThatThrows);
-        Check.sentence("Terms", usedUp, DraftBoundsTest::noOtherCallUsesItUp);
+        Check.sentence("Terms of promise 3", usedUp, DraftBoundsTest::usedUpByPattern);
+        Check.sentence("Terms of promise 3", usedUp, DraftBoundsTest::usedUpByPatternThatThrows);
+        Check.sentence("Terms of promise 4", usedUp, DraftBoundsTest::usedUpByException);
+        Check.sentence("Terms of promise 4", usedUp, DraftBoundsTest::usedUpByExceptionThatThrows);
+        Check.sentence("Terms of promise 5", usedUp, DraftBoundsTest::usedUpByWord);
+        Check.sentence("Terms of promise 5", usedUp, DraftBoundsTest::usedUpByWordThatThrows);
+        Check.sentence("Terms of promises 6 to 8", usedUp, DraftBoundsTest::noOtherCallUsesItUp);
         Check.sentence(PUT, "Appends the n lowest bytes of v", DraftBoundsTest::lowestBytes);
         Check.sentence(PUT, "the highest of these first", DraftBoundsTest::highestFirst);
         Check.sentence(PUT, "to the draft: true", DraftBoundsTest::behindWhatIsDrafted);

@@ -1,20 +1,21 @@
 /** The bounds of exceptions, which the terms and promise 4 name, without those of a full book (FullBookTest). */
 public final class ExceptionBoundsTest {
+    private static final String TERMS = "Terms of promise 4";
     private static final String EXCEPTION = "Promise 4: exception";
 
     public static void main(String[] args) {
         String letters = "An EXCEPTION is 1 to 63 letters";
-        Check.sentence("Terms", letters, ExceptionBoundsTest::noLetter);
-        Check.sentence("Terms", letters, ExceptionBoundsTest::oneLetter);
-        Check.sentence("Terms", letters, ExceptionBoundsTest::mostLetters);
-        Check.sentence("Terms", letters, ExceptionBoundsTest::tooManyLetters);
-        Check.sentence("Terms", letters, ExceptionBoundsTest::otherBytes);
-        Check.sentence("Terms", "with hyphens between them", ExceptionBoundsTest::everyPlace);
-        Check.sentence("Terms", "none at an end", ExceptionBoundsTest::hyphenAtAnEnd);
-        Check.sentence("Terms", "no two together", ExceptionBoundsTest::twoTogether);
+        Check.sentence(TERMS, letters, ExceptionBoundsTest::noLetter);
+        Check.sentence(TERMS, letters, ExceptionBoundsTest::oneLetter);
+        Check.sentence(TERMS, letters, ExceptionBoundsTest::mostLetters);
+        Check.sentence(TERMS, letters, ExceptionBoundsTest::tooManyLetters);
+        Check.sentence(TERMS, letters, ExceptionBoundsTest::otherBytes);
+        Check.sentence(TERMS, "with hyphens between them", ExceptionBoundsTest::everyPlace);
+        Check.sentence(TERMS, "none at an end", ExceptionBoundsTest::hyphenAtAnEnd);
+        Check.sentence(TERMS, "no two together", ExceptionBoundsTest::twoTogether);
         String instead = "a word that has one gets the places of the new one instead";
-        Check.sentence("Terms", instead, ExceptionBoundsTest::newPlaces);
-        Check.sentence("Terms", instead, ExceptionBoundsTest::newPlacesOfTheLongestWord);
+        Check.sentence(TERMS, instead, ExceptionBoundsTest::newPlaces);
+        Check.sentence(TERMS, instead, ExceptionBoundsTest::newPlacesOfTheLongestWord);
         Check.sentence(EXCEPTION, "how many words have one then", ExceptionBoundsTest::howMany);
         Check.sentence(EXCEPTION, "IllegalArgumentException if it is none", ExceptionBoundsTest::emptyDraft);
         Check.sentence(EXCEPTION, "IllegalArgumentException if it is none", ExceptionBoundsTest::refusedAndThenTaken);

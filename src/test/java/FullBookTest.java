@@ -8,19 +8,20 @@ public final class FullBookTest {
 
     public static void main(String[] args) {
         String patterns = "or there would be more than 8192";
-        Check.sentence("Terms", "The book has at most 8192 patterns", FullBookTest::justFullOfPatterns);
+        Check.sentence("Terms of promise 3", "The book has at most 8192 patterns", FullBookTest::justFullOfPatterns);
         Check.sentence(PATTERN, patterns, FullBookTest::onePatternTooMany);
         Check.sentence(PATTERN, patterns, FullBookTest::noneInABookFullOfPatterns);
         String beginnings = "or more than 32768 beginnings";
-        Check.sentence("Terms", "there are at most 32768", FullBookTest::justFullOfBeginnings);
+        Check.sentence("Terms of promise 3", "there are at most 32768", FullBookTest::justFullOfBeginnings);
         Check.sentence(PATTERN, beginnings, FullBookTest::oneBeginningTooMany);
         Check.sentence(PATTERN, beginnings, FullBookTest::manyBeginningsTooMany);
         Check.sentence(PATTERN, beginnings, FullBookTest::noNewBeginningInAFullBook);
         String exceptions = "IllegalStateException if these would be more than 2048";
-        Check.sentence("Terms", "The book has at most 2048 words with exceptions", FullBookTest::justFullOfExceptions);
+        Check.sentence("Terms of promise 4", "The book has at most 2048 words with exceptions",
+            FullBookTest::justFullOfExceptions);
         Check.sentence(EXCEPTION, exceptions, FullBookTest::oneExceptionTooMany);
         Check.sentence(EXCEPTION, exceptions, FullBookTest::noneInABookFullOfExceptions);
-        Check.sentence("Terms", "a word that has one gets the places of the new one instead",
+        Check.sentence("Terms of promise 4", "a word that has one gets the places of the new one instead",
             FullBookTest::newPlacesInAFullBook);
         Check.end();
     }
@@ -52,7 +53,7 @@ public final class FullBookTest {
         return book;
     }
 
-    /** 520 patterns of 63 letters or less, each with a first letter or two of its own. */
+    /** Long patterns, up to just so many beginnings. */
     private static HyphenBook bookOfBeginnings(int beginnings) {
         HyphenBook book = Check.openBook();
         String tail = "x".repeat(59);

@@ -4,11 +4,11 @@ public final class ObjectBoundsTest {
 
     public static void main(String[] args) {
         String calls = "An object is used for at most 512 calls after it has been made";
-        Check.sentence("What it is", calls, ObjectBoundsTest::lastCallIsAPattern);
-        Check.sentence("What it is", calls, ObjectBoundsTest::lastCallIsAnException);
-        Check.sentence("What it is", calls, ObjectBoundsTest::lastCallIsAWord);
-        Check.sentence("What it is", calls, ObjectBoundsTest::mostBeginningsInTheseCalls);
-        Check.sentence("Terms", "NONE = -1", ObjectBoundsTest::none);
+        Check.sentence("What it is, for promise 3", calls, ObjectBoundsTest::lastCallIsAPattern);
+        Check.sentence("What it is, for promise 4", calls, ObjectBoundsTest::lastCallIsAnException);
+        Check.sentence("What it is, for promise 5", calls, ObjectBoundsTest::lastCallIsAWord);
+        Check.sentence("What it is, for promise 8", calls, ObjectBoundsTest::mostBeginningsInTheseCalls);
+        Check.sentence("Terms of promises 7 and 8", "NONE = -1", ObjectBoundsTest::none);
         String anew = "Promise 1: A new object";
         Check.sentence(anew, "No patterns", ObjectBoundsTest::noPatterns);
         Check.sentence(anew, "no exceptions", ObjectBoundsTest::noExceptions);

@@ -1,30 +1,31 @@
 /** The bounds of patterns, which the terms and promise 3 name, without those of a full book (FullBookTest). */
 public final class PatternBoundsTest {
+    private static final String TERMS = "Terms of promise 3";
     private static final String PATTERN = "Promise 3: pattern";
 
     public static void main(String[] args) {
-        Check.sentence("Terms", "at least one letter", PatternBoundsTest::noLetter);
-        Check.sentence("Terms", "at least one letter", PatternBoundsTest::oneLetter);
-        Check.sentence("Terms", "at most 63 letters", PatternBoundsTest::mostLetters);
-        Check.sentence("Terms", "at most 63 letters", PatternBoundsTest::tooManyLetters);
+        Check.sentence(TERMS, "at least one letter", PatternBoundsTest::noLetter);
+        Check.sentence(TERMS, "at least one letter", PatternBoundsTest::oneLetter);
+        Check.sentence(TERMS, "at most 63 letters", PatternBoundsTest::mostLetters);
+        Check.sentence(TERMS, "at most 63 letters", PatternBoundsTest::tooManyLetters);
         String edges = "an edge only at its beginning or its end";
-        Check.sentence("Terms", edges, PatternBoundsTest::edgesAtTheEnds);
-        Check.sentence("Terms", edges, PatternBoundsTest::edgesElsewhere);
-        Check.sentence("Terms", "(a digit may stand ahead of the first one or behind the last one)",
+        Check.sentence(TERMS, edges, PatternBoundsTest::edgesAtTheEnds);
+        Check.sentence(TERMS, edges, PatternBoundsTest::edgesElsewhere);
+        Check.sentence(TERMS, "(a digit may stand ahead of the first one or behind the last one)",
             PatternBoundsTest::digitsOutsideTheEdges);
-        Check.sentence("Terms", "no two digits one behind the other", PatternBoundsTest::twoDigitsTogether);
-        Check.sentence("Terms", "no two digits one behind the other", PatternBoundsTest::digitsApart);
+        Check.sentence(TERMS, "no two digits one behind the other", PatternBoundsTest::twoDigitsTogether);
+        Check.sentence(TERMS, "no two digits one behind the other", PatternBoundsTest::digitsApart);
         String place = "Its NUMBER at place k (0 .. how many signs there are) is the digit that stands there";
-        Check.sentence("Terms", place, PatternBoundsTest::everyPlace);
-        Check.sentence("Terms", "ahead of sign k from 0 on", PatternBoundsTest::firstPlace);
-        Check.sentence("Terms", "(at the last place: behind them all)", PatternBoundsTest::lastPlace);
-        Check.sentence("Terms", "0 without one", PatternBoundsTest::noDigit);
-        Check.sentence("Terms", "but always 0 ahead of an edge that is the first sign",
+        Check.sentence(TERMS, place, PatternBoundsTest::everyPlace);
+        Check.sentence(TERMS, "ahead of sign k from 0 on", PatternBoundsTest::firstPlace);
+        Check.sentence(TERMS, "(at the last place: behind them all)", PatternBoundsTest::lastPlace);
+        Check.sentence(TERMS, "0 without one", PatternBoundsTest::noDigit);
+        Check.sentence(TERMS, "but always 0 ahead of an edge that is the first sign",
             PatternBoundsTest::digitAheadOfTheFirstEdge);
-        Check.sentence("Terms", "and behind one that is the last", PatternBoundsTest::digitBehindTheLastEdge);
+        Check.sentence(TERMS, "and behind one that is the last", PatternBoundsTest::digitBehindTheLastEdge);
         String beginnings = "BEGINNINGS are the rows of signs (of one sign or more) with which patterns begin"
             + " (as they are whole, too), each counted once";
-        Check.sentence("Terms", beginnings, PatternBoundsTest::beginnings);
+        Check.sentence(TERMS, beginnings, PatternBoundsTest::beginnings);
         Check.sentence(PATTERN, "how many there are then", PatternBoundsTest::howMany);
         Check.sentence(PATTERN, "IllegalArgumentException if it is none", PatternBoundsTest::emptyDraft);
         Check.sentence(PATTERN, "IllegalArgumentException if it is none", PatternBoundsTest::refusedAndThenTaken);
@@ -205,7 +206,8 @@ public final class PatternBoundsTest {
     }
 
     private static void sameSigns() {
-        for (String text : new String[] {"q1q", "qq", "q9q", "9q9q9", ".ab", "9.ab", "9.9a9b9", "bc.", "bc.9", "9b9c9.9"}) {
+        String[] texts = {"q1q", "qq", "q9q", "9q9q9", ".ab", "9.ab", "9.9a9b9", "bc.", "bc.9", "9b9c9.9"};
+        for (String text : texts) {
             HyphenBook book = KnownBook.make();
             Check.due("pattern() of " + text, Check.pattern(book, text), Check.NO_STATE);
             KnownBook.dueUsedUpAndElseAsMade(book, "pattern() of " + text);

@@ -1,28 +1,30 @@
 /** The bounds of words, values and cuts, which the terms and promise 5 name. */
 public final class WordBoundsTest {
+    private static final String TERMS = "Terms of promise 5";
     private static final String WORD = "Promise 5: word";
 
     public static void main(String[] args) {
-        Check.sentence("Terms", "A WORD is 1 to 63 letters", WordBoundsTest::noLetter);
-        Check.sentence("Terms", "A WORD is 1 to 63 letters", WordBoundsTest::oneLetter);
-        Check.sentence("Terms", "A WORD is 1 to 63 letters", WordBoundsTest::mostLetters);
-        Check.sentence("Terms", "A WORD is 1 to 63 letters", WordBoundsTest::tooManyLetters);
-        Check.sentence("Terms", "The word with an edge at each end is the ROW", WordBoundsTest::edgesOfTheRow);
+        Check.sentence(TERMS, "A WORD is 1 to 63 letters", WordBoundsTest::noLetter);
+        Check.sentence(TERMS, "A WORD is 1 to 63 letters", WordBoundsTest::oneLetter);
+        Check.sentence(TERMS, "A WORD is 1 to 63 letters", WordBoundsTest::mostLetters);
+        Check.sentence(TERMS, "A WORD is 1 to 63 letters", WordBoundsTest::tooManyLetters);
+        Check.sentence(TERMS, "The word with an edge at each end is the ROW", WordBoundsTest::edgesOfTheRow);
         String fits = "a pattern FITS at each place of it where its signs stand";
-        Check.sentence("Terms", fits, WordBoundsTest::wholeRow);
-        Check.sentence("Terms", fits, WordBoundsTest::longerThanTheRow);
-        Check.sentence("Terms", fits, WordBoundsTest::eachPlace);
+        Check.sentence(TERMS, fits, WordBoundsTest::wholeRow);
+        Check.sentence(TERMS, fits, WordBoundsTest::longerThanTheRow);
+        Check.sentence(TERMS, fits, WordBoundsTest::eachPlace);
         String value = "The VALUE behind letter k (1 .. n - 1) is the greatest of the numbers"
             + " that patterns which fit anywhere have at that place";
-        Check.sentence("Terms", value, WordBoundsTest::greatest);
-        Check.sentence("Terms", value, WordBoundsTest::firstAndLastPlace);
-        Check.sentence("Terms", "0 without any", WordBoundsTest::withoutAny);
-        Check.sentence("Terms", "if k is at least LEFT", WordBoundsTest::left);
-        Check.sentence("Terms", "and n - k at least RIGHT", WordBoundsTest::right);
-        Check.sentence("Terms", "(at first 2 and 3)", WordBoundsTest::leastAtFirst);
-        Check.sentence("Terms", "if it has an exception, a hyphen stands there", WordBoundsTest::hyphensAlone);
-        Check.sentence("Terms", "if it has an exception, a hyphen stands there", WordBoundsTest::hyphensWithinLeast);
-        Check.sentence("Terms", "else the value is odd", WordBoundsTest::odd);
+        Check.sentence(TERMS, value, WordBoundsTest::greatest);
+        Check.sentence(TERMS, value, WordBoundsTest::firstAndLastPlace);
+        Check.sentence(TERMS, "0 without any", WordBoundsTest::withoutAny);
+        Check.sentence(TERMS, "if k is at least LEFT", WordBoundsTest::left);
+        Check.sentence(TERMS, "and n - k at least RIGHT", WordBoundsTest::right);
+        Check.sentence(TERMS, "(at first 2 and 3)", WordBoundsTest::leastAtFirst);
+        String told = "if it has an exception, a hyphen stands there";
+        Check.sentence(TERMS, told, WordBoundsTest::hyphensAlone);
+        Check.sentence(TERMS, told, WordBoundsTest::hyphensWithinLeast);
+        Check.sentence(TERMS, "else the value is odd", WordBoundsTest::odd);
         Check.sentence(WORD, "bit k for behind letter k", WordBoundsTest::everyBit);
         Check.sentence(WORD, "bit k for behind letter k", WordBoundsTest::noBitAtTheEnds);
         Check.sentence(WORD, "IllegalArgumentException if it is no word", WordBoundsTest::otherBytes);
